@@ -916,7 +916,7 @@ public final class ShadowDoors {
 
         Reader(Tokens source, Quarter draft) {
             tokens = source;
-            formulas = new FormulaReader(source);
+            formulas = new FormulaReader(source, draft.formula);
             told = draft;
             place = NONE;
         }
@@ -1140,9 +1140,9 @@ public final class ShadowDoors {
         private final Tokens tokens;
         private Formula formula;
 
-        FormulaReader(Tokens source) {
+        FormulaReader(Tokens source, Formula draft) {
             tokens = source;
-            formula = new Formula();
+            formula = draft;
         }
 
         boolean readFormula(Formula empty) {
