@@ -42,7 +42,9 @@ public final class ModelTest {
     }
 
     private void tell(String text) throws Exception {
-        int[] numbers = Texts.numbersOf(text);
+        // What is cut off behind the text is no part of it.
+        String more = text + (random.nextBoolean() ? text : "a1 ;");
+        int[] numbers = Texts.numbersOf(more.length() > 1600 ? text : more);
         for (int i = 0; i + 4 < numbers.length; i += 5) {
             call("feed", numbers[i], numbers[i + 1], numbers[i + 2], numbers[i + 3], numbers[i + 4]);
         }
@@ -127,8 +129,9 @@ public final class ModelTest {
             if (model.now.shut.size() > 1) {
                 call("shut", model.now.shut.iterator().next());
             }
-            if (random.nextInt(100) == 0) {
-                tell(texts.broken(texts.quarter(4)));
+            if (random.nextInt(50) == 0) {
+                String other = texts.quarter(4);
+                tell(random.nextInt(3) == 0 ? texts.broken(other) : other);
             }
             callSome();
         }

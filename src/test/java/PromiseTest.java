@@ -117,6 +117,23 @@ public final class PromiseTest {
         due(8, x.end(8), "end(8)");
         due(0, x.quarter(), "quarter()");
         due(0, x.fault(0), "no second cloud was left");
+        cutIs(2, 8, "cloud 12ab", 8);
+        cutIs(2, 7, "cloud 1  ;", 7);
+        cutIs(2, 7, "cloud 12;", 7);
+        cutIs(2, 5, "door abcdefghi", 5);
+        cutIs(2, 13, "door abcdefghi", 13);
+        cutIs(2, 0, "size 3", 3);
+        cutIs(0, -1, "cloud 100;100", 10);
+    }
+
+    /** What was cut off is not looked at, though it was fed. */
+    private static void cutIs(int which, int place, String text, int length) {
+        ShadowDoors x = new ShadowDoors();
+        feed(x, text);
+        x.end(length);
+        x.quarter();
+        due(which, x.fault(0), "fault(0) of " + length + " bytes of '" + text + "'");
+        due(place, x.fault(1), "fault(1) of " + length + " bytes of '" + text + "'");
     }
 
     private static void quarters() {
@@ -156,6 +173,27 @@ public final class PromiseTest {
         due(0, tell(x, " \n "), "quarter() of blanks");
         due(8, tell(x, "size 8 by 1;door a at 0 0 high 1;door b at 1 0 high 1;door c at 2 0 high 1;door d at 3 0 high 1;"
                 + "door e at 4 0 high 1;door f at 5 0 high 1;door g at 6 0 high 1;door h at 7 0 high 1;"), "eight doors");
+    }
+
+    private static void quarterBehindQuarter() {
+        String plain = "size 4 by 1;wall 1 0;door a at 0 0 high 1;person p at 0 0;";
+        ShadowDoors x = told(plain + "shade date+3;cloud 40;");
+        due(bits(2, 3), x.shadow(0, 0), "shadow(0, 0)");
+        due(2, x.go(0, 2), "go(0, 2)");
+        x.look(0, 2, true);
+        x.untell(0);
+        for (int i = 0; i < 3; i++) {
+            due(1, tell(x, plain), "quarter() without shade");
+            due(0, x.shadow(0, 0), "no shadow is left");
+            due(0, x.about(15), "no unit is left");
+            due(0, x.person(0, 1), "he is not gone");
+            due(12, x.fit(0), "no look is left");
+        }
+        due(1, tell(x, plain + "shade 3;"), "quarter() without cloud");
+        due(1, x.surest(0, 3, 1, 0), "no cloud is left");
+        due(0, x.look(0, 2, false), "the first look");
+        // Of the cells 0, 2, 3 the first would shade it.
+        due(8, x.fit(0), "the first look counts, as it was told");
     }
 
     private static void faultIs(int which, int place, String text) {
@@ -373,6 +411,7 @@ public final class PromiseTest {
         valueIs(1, "5 and 7");
         valueIs(0, "5 and 0");
         valueIs(1, "0 or 9");
+        valueIs(0, "0 or 0");
         valueIs(1, "1 or 0 and 0");
         valueIs(0, "(1 or 0) and 0");
         valueIs(0, "not 5");
@@ -381,6 +420,7 @@ public final class PromiseTest {
         valueIs(0, "not 1<2");
         valueIs(1, "not 1 and 0 or 2");
         valueIs(6, "(hour>4)*2*height");
+        valueIs(1, ("not not not not not not not 1 or ").repeat(29) + "not not not not not not not 0");
         ShadowDoors x = told("door a at 0 0 high 3;shade 100*date+hour;");
         due(0, x.shade(0, 0), "shade(0, 0)");
         due(23, x.shade(0, 23), "shade(0, 23)");
@@ -779,6 +819,9 @@ public final class PromiseTest {
         due(10000000000000000L, z.surest(0, 3, 8, 1), "100 to the eighth");
         ShadowDoors c = told("size 4 by 1;wall 1 0;door a at 0 0 high 1;shade 3;cloud 100;");
         due(0, c.surest(0, 3, 8, 0), "always cloudy");
+        ShadowDoors h = told("size 4 by 1;wall 1 0;door a at 0 0 high 1;shade 3;cloud 42;");
+        due(29, h.surest(0, 3, 1, 0), "in lowest terms");
+        due(50, h.surest(0, 3, 1, 1), "in lowest terms");
     }
 
     private static void dates() {
@@ -1012,6 +1055,7 @@ public final class PromiseTest {
         feeding();
         ending();
         quarters();
+        quarterBehindQuarter();
         faults();
         doors();
         lamps();
