@@ -875,7 +875,7 @@ public final class ShadowDoors {
                 kind = END;
                 return;
             }
-            kind = SIGNS.indexOf((char) text[at]) >= 0 ? text[at] : BAD;
+            kind = SIGNS.indexOf((char) (text[at] & 255)) >= 0 ? text[at] : BAD;
             at++;
         }
 
