@@ -64,7 +64,8 @@ public final class ModelTest {
             case "person" -> model.plan.people.size();
             case "hours" -> 49;
             case "day" -> 24;
-            case "few" -> 9;
+            case "few" -> 10;
+            case "many" -> 26;
             case "what" -> 2;
             case "look" -> model.looks.size();
             case "time" -> model.time + 2;
@@ -83,10 +84,10 @@ public final class ModelTest {
 
     private static final String[] FACE = {"door door four", "lamp lamp three", "person person what", "shade door hours", "shadow door hours",
         "shades hours is", "moves cell hours", "go person cell", "hour", "hour", "hour", "shut door", "out lamp", "eclipse", "undo", "redo", "undo",
-        "soonest cell cell", "soonest cell cell", "reach cell hours", "meet person person what", "barred cell few", "longest door what",
-        "cross door door what", "rooms hours", "hears cell cell hours", "keep cell cell few what", "keep cell cell few what",
-        "free cell cell few what", "free cell cell few what", "surest cell cell few what", "surest cell cell few what",
-        "dates cell cell few three", "lies hours", "look day cell is", "look day cell is", "untell look", "later later", "fit time",
+        "soonest cell cell", "soonest cell cell", "reach cell hours", "meet person person what", "barred cell many", "longest door what",
+        "cross door door what", "rooms hours", "hears cell cell hours", "keep cell cell many what", "keep cell cell many what",
+        "free cell cell many what", "free cell cell many what", "surest cell cell few what", "surest cell cell few what",
+        "dates cell cell many three", "lies hours", "look day cell is", "look day cell is", "untell look", "later later", "fit time",
         "places time", "heights time", "ask what time", "image three", "back three", "about about", "fault what", "go person cell", "go person cell"};
 
     private void callSome() throws Exception {
